@@ -720,7 +720,7 @@ public final class ErrataPress {
         int countOnSheet(int sheet, int level) {
             int count = 0;
             for (int place = 0; place < lengths[sheet]; place++) {
-                if (levelAt(sheet, place) >= level) {
+                if (levels[sheet * MOST_LETTERS + place] >= level) {
                     count++;
                 }
             }

@@ -1,3 +1,5 @@
+import java.util.function.Consumer;
+
 /** Promises 33 to 39. */
 public final class AccountsAndUndoTest {
     public static void main(String[] args) {
@@ -9,6 +11,8 @@ public final class AccountsAndUndoTest {
         undoesEight();
         undoForgets();
         saves();
+        restoresEach();
+        restoresPlaces();
         restoreForgets();
         Check.finish();
     }
@@ -91,28 +95,29 @@ public final class AccountsAndUndoTest {
 
     /** Promise 37: each change is undone. */
     private static void undoesEach() {
-        ErrataPress press = Check.pressAfter("h30;h40;s0=aaa;s1=aaaa;s1=ffff;r11;r12;m00f;m10f;l00;e;l10");
-        dueUndone(press, () -> press.house(5));
-        dueUndone(press, () -> press.sheet(1, 123));
-        dueUndone(press, () -> press.take(0));
-        dueUndone(press, () -> press.take(2));
-        dueUndone(press, () -> press.set(0, 0, 'e'));
-        dueUndone(press, () -> press.set(1, 1, 'e'));
-        dueUndone(press, () -> press.set(0, 1, 'e'));
-        dueUndone(press, () -> press.correct(0, 0));
-        dueUndone(press, () -> press.correct(1, 0));
-        dueUndone(press, () -> press.reader(0, 1));
-        dueUndone(press, press::edition);
-        dueUndone(press, press::day);
-        dueUndone(press, () -> Check.runText(press, "d;h1;x0;x0;m00a;l00;e;c00;r06;s2=abcdef"));
-        press.set(2, 0, 'a');
-        dueUndone(press, () -> press.license(2, 0));
+        dueUndone(press -> press.house(5));
+        dueUndone(press -> press.sheet(1, 123));
+        dueUndone(press -> press.take(0));
+        dueUndone(press -> press.take(2));
+        dueUndone(press -> press.set(0, 0, 'e'));
+        dueUndone(press -> press.set(1, 1, 'e'));
+        dueUndone(press -> press.set(0, 1, 'e'));
+        dueUndone(press -> press.license(2, 0));
+        dueUndone(press -> press.correct(0, 0));
+        dueUndone(press -> press.correct(1, 0));
+        dueUndone(press -> press.reader(0, 1));
+        dueUndone(ErrataPress::edition);
+        dueUndone(ErrataPress::day);
+        dueUndone(press -> Check.runText(press, "d;h1;x0;x0;m01b;l01;e;c01;r06;s2=abcdef"));
     }
 
-    private static void dueUndone(ErrataPress press, Runnable change) {
+    /** A day goes by ahead of the change, so that what is undone is not what the change before had kept. */
+    private static void dueUndone(Consumer<ErrataPress> change) {
+        ErrataPress press = Check.pressAfter("h30;h40;s0=aaa;s1=aaaa;s1=ffff;r11;r12;m00f;m10f;l00;e;l10;m20a");
+        press.day();
         String ahead = Check.picture(press);
         int changes = press.account(14);
-        change.run();
+        change.accept(press);
         Check.due("there is a change", press.account(14), changes + 1);
         Check.due("something changes", Check.picture(press).equals(ahead), false);
         Check.due("the undo", press.undo(), changes);
@@ -121,16 +126,15 @@ public final class AccountsAndUndoTest {
 
     private static void undoesEight() {
         ErrataPress press = new ErrataPress();
-        String[] pictures = new String[12];
         press.house(0);
-        for (int k = 0; k < 12; k++) {
-            pictures[k] = Check.picture(press);
+        for (int day = 0; day < 12; day++) {
             press.day();
-            Check.due("changes", press.account(14), Math.min(8, k + 2));
+            Check.due("changes", press.account(14), Math.min(8, day + 2));
         }
-        for (int k = 11; k >= 4; k--) {
-            Check.due("the undo", press.undo(), k - 4);
-            Check.due("the state", Check.picture(press), pictures[k]);
+        for (int day = 11; day >= 4; day--) {
+            Check.due("the undo", press.undo(), day - 4);
+            Check.due("the days", press.account(3), day);
+            Check.due("the house", Check.houseLineOf(press, 0), "0$" + day + "~0");
         }
         Check.dueThrow("a ninth", Check.STATE, press::undo);
         Check.due("the days", press.account(3), 4);
@@ -175,26 +179,60 @@ public final class AccountsAndUndoTest {
         ErrataPress press = new ErrataPress();
         Check.dueThrow("no snapshot", Check.STATE, press::restore);
         Check.due("an empty one", press.save(), 0);
-        Check.runText(press, "h30;h40;s0=aaa;s1=aaaa;s1=ffff;r11;r12;m00f;m10f;l00;e;l10");
-        String full = Check.picture(press);
+        Check.runText(press, "h30;h40;s0=aaa;m00f;l00;e;r11");
         Check.due("the empty one", press.restore(), 0);
-        Check.due("is empty", press.account(0) + press.account(10), 0);
-        Check.runText(press, "h30;h40;s0=aaa;s1=aaaa;s1=ffff;r11;r12;m00f;m10f;l00;e;l10");
-        Check.due("the same again", Check.picture(press), full);
+        for (int what = 0; what <= 14; what++) {
+            Check.due("account " + what, press.account(what), 0);
+        }
+        Check.runText(press, "h20;s0=abc");
+        Check.due("one in place of the empty one", press.save(), 1);
+        press.take(0);
+        Check.due("it is back", press.restore(), 1);
+        Check.due("its line", Check.lineOf(press, 0), "0:abc");
+    }
+
+    /** Each change is taken back by restore, which can be called again. */
+    private static void restoresEach() {
+        dueRestored(press -> press.house(5));
+        dueRestored(press -> press.sheet(1, 123));
+        dueRestored(press -> press.take(0));
+        dueRestored(press -> press.set(1, 1, 'e'));
+        dueRestored(press -> press.license(2, 0));
+        dueRestored(press -> press.correct(0, 0));
+        dueRestored(press -> press.reader(0, 1));
+        dueRestored(ErrataPress::edition);
+        dueRestored(ErrataPress::day);
+        dueRestored(press -> Check.runText(press, "d;h1;x0;x0;m01b;l01;e;c01;r06;s2=abcdef"));
+        dueRestored(ErrataPress::undo);
+    }
+
+    private static void dueRestored(Consumer<ErrataPress> change) {
+        ErrataPress press = Check.pressAfter("h30;h40;s0=aaa;s1=aaaa;s1=ffff;r11;r12;m00f;m10f;l00;e;l10;m20a");
+        press.day();
+        String full = Check.picture(press);
         Check.due("a full one", press.save(), 3);
-        Check.runText(press, "h1;x0;x0;m00a;l00;e;c00;r06;s2=abcdef;d");
-        Check.due("changed", Check.picture(press).equals(full), false);
+        change.accept(press);
         Check.type(press, "hh");
         Check.due("the full one", press.restore(), 3);
         Check.due("is back", Check.picture(press), full);
         Check.due("the input stays", press.account(13), 2);
-        press.take(0);
-        press.take(0);
+        Check.due("nothing is to be undone", press.account(14), 0);
+        press.take(1);
         Check.due("the full one again", press.restore(), 3);
-        Check.due("is back again", Check.picture(press), full);
-        press.take(2);
+        Check.due("has its second sheet", Check.lineOf(press, 1), "1:F'aaa");
+    }
+
+    /** All that is in a snapshot comes back, though something else has come to its place. */
+    private static void restoresPlaces() {
+        ErrataPress press = new ErrataPress();
+        Check.runText(press, "h30;s0=aaa;r05;r12;m00f;m01e");
+        String full = Check.picture(press);
+        press.save();
         press.undo();
-        Check.due("the undo makes it full", Check.picture(press), full);
+        Check.runText(press, "h99;h40;s1=ffff;r11;r06;r06;m03a;l03;e");
+        Check.due("another one", Check.lineOf(press, 0), "1:fffA!");
+        Check.due("the snapshot", press.restore(), 1);
+        Check.due("is back", Check.picture(press), full);
     }
 
     private static void restoreForgets() {

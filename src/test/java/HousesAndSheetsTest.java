@@ -8,6 +8,7 @@ public final class HousesAndSheetsTest {
         houses();
         sheets();
         takes();
+        shortBehindLong();
         sets();
         sheetsWithMarksGo();
         licenses();
@@ -108,6 +109,43 @@ public final class HousesAndSheetsTest {
         Check.dueThrow("take(0)", Check.OUTSIDE, () -> press.take(0));
         Check.due("a new sheet", press.sheet(1, 222), 0);
         Check.due("its letters", Check.lineOf(press, 0), "1:bbb");
+        takesOfEight();
+    }
+
+    private static void takesOfEight() {
+        for (int sheet = 0; sheet < 8; sheet++) {
+            ErrataPress press = Check.pressAfter("h9;h9;s1=aaa;s0=bbb;s1=ccc;s0=ddd;s1=eee;s0=fff;s1=abcdefab;s0=abcd");
+            String[] lines = new String[8];
+            for (int k = 0; k < 8; k++) {
+                lines[k] = Check.lineOf(press, k);
+            }
+            Check.due("seven are left", press.take(sheet), 7);
+            for (int k = 0; k < 7; k++) {
+                Check.due("without " + sheet + ", " + k, Check.lineOf(press, k), lines[k < sheet ? k : k + 1]);
+            }
+            Check.due("an eighth comes", press.sheet(1, 654), 7);
+            Check.due("the eighth", Check.lineOf(press, 7), "1:fed");
+        }
+    }
+
+    /** A short sheet that comes where a long one with misprints was has nothing of it. */
+    private static void shortBehindLong() {
+        ErrataPress press = Check.pressAfter("h99;r11;s0=aaaaaaaa;m03f;m04f;m05f;m06f;m07f;l03;l05;e;l04;x0;s0=bbb;s0=bbba");
+        Check.due("its line", Check.lineOf(press, 0), "0:bbb");
+        Check.due("its fines", press.fines(0, false) + press.fines(0, true), 0);
+        Check.due("its numbers", press.sheetOf(0, 2) + press.sheetOf(0, 3) + press.sheetOf(0, 5), 0);
+        Check.due("what is to come", press.wouldShame(0) - press.houseOf(0, 1) + press.wouldLaugh(false)
+            + press.wouldLaugh(true), 0);
+        Check.due("what a licence costs", press.houseOf(0, 5), 2);
+        Check.due("the nearest", press.nearest(0), 0);
+        Check.dueThrow("a bargain", Check.NO_ELEMENT, () -> press.bargain(true));
+        Check.dueThrow("its place 3", Check.OUTSIDE, () -> press.markAt(0, 3));
+        Check.dueRefusal(press, 8, 1, press::edition);
+        press.set(0, 0, 'c');
+        press.license(0, 0);
+        press.edition();
+        Check.due("printed", press.account(8), 3);
+        Check.due("all is well", press.isWell(), true);
     }
 
     /** Promise 5. */
