@@ -1,7 +1,15 @@
+import java.lang.reflect.Method;
+import java.lang.reflect.Modifier;
+import java.util.Map;
+import java.util.TreeMap;
+import java.util.function.Consumer;
+
 /** What the tests of the project share: it counts wrong answers, prints them, and ends with 1 if there was one. */
 final class Check {
     private static int wrong = 0;
     private static int done = 0;
+    /** The test that runs now, where a class has its tests run by eachTest. */
+    private static String test = "";
 
     private Check() {
     }
@@ -36,7 +44,37 @@ final class Check {
         done++;
         if (!isRight) {
             wrong++;
-            System.out.println(text);
+            System.out.println(test + text);
+        }
+    }
+
+    /** Runs each method of a class that is a test of its own: static, without parameters and without answer. */
+    static void eachTest(Class<?> tests) {
+        Map<String, Method> byName = new TreeMap<>();
+        for (Method method : tests.getDeclaredMethods()) {
+            if (isTest(method)) {
+                byName.put(method.getName(), method);
+            }
+        }
+        for (Method method : byName.values()) {
+            test = method.getName() + ": ";
+            runTest(method);
+        }
+        test = "";
+        System.out.println(byName.size() + " tests in " + tests.getName());
+    }
+
+    private static boolean isTest(Method method) {
+        return Modifier.isStatic(method.getModifiers()) && !method.isSynthetic() && method.getParameterCount() == 0
+            && method.getReturnType() == void.class;
+    }
+
+    private static void runTest(Method method) {
+        try {
+            method.setAccessible(true);
+            method.invoke(null);
+        } catch (ReflectiveOperationException e) {
+            tell(false, "ended with " + (e.getCause() == null ? e : e.getCause()));
         }
     }
 
@@ -72,6 +110,56 @@ final class Check {
         }
         runText(press, rest);
         return press;
+    }
+
+    /** A press whose house 0 would have this shame, of up to 100, behind an edition now; it has none yet. */
+    static ErrataPress pressBeforeShame(int shame) {
+        ErrataPress press = pressAfter("h99;s0=aaaaaaaa;s0=aaaaaaaa;s0=aaaaaaaa");
+        int coins = 99;
+        for (int k = 0; 5 * k < shame; k++) {
+            for (; coins < 2 + k; coins++) {
+                press.day();
+            }
+            press.set(k / 8, k % 8, (char) ('a' + Math.min(5, shame - 5 * k)));
+            coins -= press.license(k / 8, k % 8);
+        }
+        return press;
+    }
+
+    /** A press whose house 0 has this shame; all that brought it, is shown on the first sheets of three. */
+    static ErrataPress pressWithShame(int shame) {
+        ErrataPress press = pressBeforeShame(shame);
+        if (shame > 0) {
+            press.edition();
+        }
+        return press;
+    }
+
+    /** A call on a press after a text throws, and changes neither what changes can change nor what can be undone. */
+    static void dueThrowAlone(String text, Class<? extends RuntimeException> want, Consumer<ErrataPress> call) {
+        ErrataPress press = pressAfter(text);
+        String ahead = picture(press);
+        int changes = press.account(14);
+        dueThrow("a call behind " + text, want, () -> call.accept(press));
+        due("what is there behind " + text, picture(press), ahead);
+        due("the changes behind " + text, press.account(14), changes);
+    }
+
+    /** A call that is asked for a number. */
+    interface Asked {
+        int ask(int number);
+    }
+
+    /** A call throws for each number that is none of the first so many, and for none of these. */
+    static void dueJust(int many, Class<? extends RuntimeException> thrown, Asked call) {
+        int most = Integer.MAX_VALUE;
+        int[] others = {most + 1, most + 2, -65536, -1, many, many + 1, 64, 65536, most - 1, most};
+        for (int number : others) {
+            dueThrow("the number " + number, thrown, () -> call.ask(number));
+        }
+        for (int number = 0; number < many; number++) {
+            call.ask(number);
+        }
     }
 
     static String lineOf(ErrataPress press, int sheet) {
