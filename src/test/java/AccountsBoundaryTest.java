@@ -1,3 +1,6 @@
+import java.util.List;
+import java.util.function.Consumer;
+
 /** The boundaries that promises 33 to 39 name: a test for each, whose remark tells the sentence that it holds. */
 public final class AccountsBoundaryTest {
     public static void main(String[] args) {
@@ -193,7 +196,24 @@ public final class AccountsBoundaryTest {
     // Promise 37
 
     /** Promise 37: "Undoes the latest change." */
-    static void theLatestChangeIsUndone() {
+    static void justTheLatestChangeIsUndone() {
+        List<Consumer<ErrataPress>> changes = List.of(press -> press.house(1), press -> press.sheet(0, 1234),
+            press -> press.take(0), press -> press.take(1), press -> press.set(0, 0, 'f'), press -> press.license(0, 0),
+            press -> press.correct(0, 0), press -> press.correct(1, 0), press -> press.reader(1, 1),
+            ErrataPress::edition, ErrataPress::day);
+        for (Consumer<ErrataPress> change : changes) {
+            ErrataPress press = Check.pressAfter("h50;h40;s1=aaa;s0=bcd;r12;m00e;m11f;l11;e;m10f;l10");
+            press.day();
+            String ahead = Check.picture(press);
+            change.accept(press);
+            Check.due("something is changed", Check.picture(press).equals(ahead), false);
+            Check.due("the text and the day are left", press.undo(), 2);
+            Check.due("and nothing else is undone", Check.picture(press), ahead);
+        }
+    }
+
+    /** Promise 37: "Undoes the latest change." */
+    static void theLatestTextIsUndone() {
         String[] changes = {"h1", "s0=abcd", "m00f", "m11e", "m10a", "l00", "c00", "c10", "r11", "x0", "x1", "e", "d",
             "h1;h2;s3=abc;m21f;l21;e;x0;r06;d"};
         for (String change : changes) {
@@ -259,6 +279,18 @@ public final class AccountsBoundaryTest {
         Check.runText(press, "x1;d;x0");
         press.restore();
         Check.due("the later one", Check.picture(press), ahead);
+    }
+
+    /** Promise 38: "Takes a snapshot of what changes can change" */
+    static void allThatChangesCanChangeIsInASnapshot() {
+        ErrataPress press = Check.pressAfter("h50;s0=aaaa;m00f;m01d;r06;r13");
+        String ahead = Check.picture(press);
+        press.save();
+        press.undo();
+        Check.runText(press, "h9;h20;s1=bcdefa;r12;r01;r11;m00f;m05f;l00;e;c00;d");
+        Check.due("all is another", Check.lineOf(press, 0), "1:bcdefF");
+        press.restore();
+        Check.due("the snapshot", Check.picture(press), ahead);
     }
 
     /** Promise 38: "Returns the sheets." */

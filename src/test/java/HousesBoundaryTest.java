@@ -207,6 +207,42 @@ public final class HousesBoundaryTest {
         }
     }
 
+    /** Promise 4: "Takes a sheet away." */
+    static void itsMisprintsGoWithIt() {
+        ErrataPress press = Check.pressAfter("h99;h99;r11;s0=aaaa;s1=aaaa;m00f;m10f;m11f;m12e;l00;l10;l11");
+        press.take(1);
+        Check.due("misprints", press.account(5) * 10 + press.account(6), 11);
+        Check.due("of its house", press.houseOf(1, 3) + press.houseOf(1, 4), 0);
+        Check.due("what a licence costs its house", press.houseOf(1, 5), 2);
+        Check.due("the shame to come", press.wouldShame(1), 0);
+        Check.due("the laughs to come", press.wouldLaugh(false) * 10 + press.wouldLaugh(true), 11);
+        Check.due("the laughs", press.edition(), 1);
+        Check.due("printed", press.account(8), 1);
+        Check.due("the shame of its house", press.houseOf(1, 1), 0);
+        Check.dueThrow("a bargain", Check.NO_ELEMENT, () -> press.bargain(false));
+        Check.due("the share", (double) press.errorShare(), 0.25);
+        Check.due("all is well", press.isWell(), true);
+    }
+
+    /** Promise 4: "Takes a sheet away." */
+    static void aShortSheetInItsPlace() {
+        ErrataPress press = Check.pressAfter("h99;r11;s0=aaaaaaaa;m02f;m03f;m04f;m05f;m06f;m07f;l03;l05;e;l04");
+        press.take(0);
+        press.sheet(0, 222);
+        Check.due("its line", Check.lineOf(press, 0), "0:bbb");
+        for (int what = 2; what <= 5; what++) {
+            Check.due("its number " + what, press.sheetOf(0, what), 0);
+        }
+        Check.due("its fines", press.fines(0, false) + press.fines(0, true), 0);
+        Check.due("no shame is to come", press.wouldShame(0), 10);
+        Check.due("no laughs are to come", press.wouldLaugh(false) + press.wouldLaugh(true), 0);
+        Check.dueRefusal(press, 8, 1, press::edition);
+        Check.due("a misprint of its own", press.set(0, 2, 'c') + press.license(0, 2), 1 + 2);
+        Check.due("its laugh", press.edition(), 1);
+        Check.due("printed", press.account(8), 3);
+        Check.due("all is well", press.isWell(), true);
+    }
+
     /** Promise 4: "Returns how many sheets there are then." */
     static void howManySheetsThereAreThen() {
         ErrataPress press = Check.pressAfter("h1;s0=aaa;s0=aaa;s0=aaa;s0=aaa;s0=aaa;s0=aaa;s0=aaa;s0=aaa");

@@ -283,7 +283,7 @@ public final class OrdersBoundaryTest {
         Check.due("the input", press.account(13), 60);
         Check.dueThrow("the text", Check.ILLEGAL, press::run);
         Check.due("the error", press.errorPosition(), 60);
-        Check.due("the orders of sixty", Check.runText(press, "d;".repeat(27) + "s0=abc".replace("s0=abc", "h1;h42")), 29);
+        Check.due("the orders of sixty", Check.runText(press, "d;".repeat(27) + "h1;h42"), 29);
         Check.due("its last house", press.houseOf(1, 0), 42);
     }
 
@@ -339,7 +339,7 @@ public final class OrdersBoundaryTest {
         ErrataPress press = Check.pressAfter("h9;s0=abc");
         String[] texts = {"s9=abc", "m09a", "l09", "c90", "r21", "r00", "x9", "d;d;x1"};
         for (String text : texts) {
-            Check.dueThrow("an error", Check.ILLEGAL, () -> Check.runText(press, "d;d"  + "q"));
+            Check.dueThrow("an error", Check.ILLEGAL, () -> Check.runText(press, "d;dq"));
             Check.due("its position", press.errorPosition(), 3);
             Check.dueThrow(text, Check.ILLEGAL, () -> Check.runText(press, text));
             Check.due("no position for " + text, press.errorPosition(), -1);

@@ -153,6 +153,62 @@ public final class TermsBoundaryTest {
         Check.due("one more can come then", press.sheet(0, 123), 7);
     }
 
+    /** Terms: "At most 8 sheets are there, numbered from 0, each of a house, with a right word of 3 to 8 letters from a
+     * to f." */
+    static void eightSheetsOfEightLetters() {
+        ErrataPress press = fullPress();
+        int[] due = {4, 8, 1, 0, 0, 64, 16, 0, 0, 0, 56, 0, 340, 0, 8};
+        int[] duePrinted = {4, 8, 1, 0, 1, 64, 16, 16, 16, 16, 56, 0, 356, 0, 8};
+        for (int what = 0; what <= 14; what++) {
+            Check.due("account " + what, press.account(what), due[what]);
+        }
+        Check.due("the laughs to come", press.wouldLaugh(false), 16);
+        Check.due("the laughs to come, by readers", press.wouldLaugh(true), 16);
+        for (int house = 0; house < 4; house++) {
+            Check.due("the shame to come", press.wouldShame(house), 4);
+        }
+        Check.due("the laughs", press.edition(), 16);
+        for (int what = 0; what <= 14; what++) {
+            Check.due("account " + what + ", printed", press.account(what), duePrinted[what]);
+        }
+        dueFullSheets(press);
+    }
+
+    /** Eight sheets of eight misprints that are 1 bad, the first and the last on each are licensed. */
+    private static ErrataPress fullPress() {
+        ErrataPress press = Check.pressAfter("h99;h99;h99;h99;r11");
+        for (int sheet = 0; sheet < 8; sheet++) {
+            press.sheet(sheet % 4, 11111111);
+        }
+        for (int cell = 0; cell < 64; cell++) {
+            press.set(cell / 8, cell % 8, 'b');
+        }
+        for (int sheet = 0; sheet < 8; sheet++) {
+            press.license(sheet, 0);
+            press.license(sheet, 7);
+        }
+        return press;
+    }
+
+    private static void dueFullSheets(ErrataPress press) {
+        for (int sheet = 0; sheet < 8; sheet++) {
+            Check.due("the line", Check.lineOf(press, sheet), sheet % 4 + ":B!BBBBBBB!");
+            Check.due("the fines", press.fines(sheet, false), 6 * 2 + 2 * 8);
+            Check.due("the fines, in thought", press.fines(sheet, true), 6 * 2 + 2 * 8);
+            Check.due("how bad", press.sheetOf(sheet, 5), 8);
+            Check.due("the nearest", press.nearest(sheet), 0);
+            Check.due("the order", press.worst(sheet), sheet);
+            Check.due("who laughs at its last", press.laughing(sheet, 7), 1);
+        }
+        for (int house = 0; house < 4; house++) {
+            Check.due("the house", Check.houseLineOf(press, house), house + "$89~4");
+            Check.due("its misprints", press.houseOf(house, 3) * 10 + press.houseOf(house, 4), 164);
+        }
+        Check.due("the share", (double) press.errorShare(), 1.0);
+        Check.due("all is well", press.isWell(), true);
+        Check.due("the bargain", press.bargain(false) * 10 + press.bargain(true), 1);
+    }
+
     /** Terms: "with a right word of 3 to 8 letters from a to f" */
     static void wordsOf3To8Letters() {
         ErrataPress press = Check.pressAfter("h9");
